@@ -1000,7 +1000,8 @@ public final class OneFewer {
                 if (hasBit(tellers, one)) {
                     int asked = askedOf(word, one);
                     int chosen = one == chooser ? set : state.people.pick(one, mayOf(word, one), asked);
-                    word.fines += (asked - Integer.bitCount(chosen)) * fineOf(word, one);
+                    int missing = asked - Integer.bitCount(chosen);
+                    word.fines += missing > 0 ? missing * fineOf(word, one) : 0;
                     hand(word, one, chosen & ~deaf, hearers);
                     hearers |= chosen & ~deaf;
                 }

@@ -157,6 +157,7 @@ public final class PromiseTest {
         due("!!o=1", met("!!o=1"), 126 - 2);
         due("o=1|o=2|o=3&p=0", met("o=1|o=2|o=3&p=0"), 126 - 14);
         due("p=0", met("p=0"), 0);
+        due("p<1", met("p<1"), 0);
         due("p=1", met("p=1"), 126);
         due("k=0&n=3&d=0&o=6", met("k=0&n=3&d=0&o=6"), 126 - 64);
         due("n<3", met("n<3"), 126);
@@ -166,6 +167,14 @@ public final class PromiseTest {
         due("o<0", met("o<0"), 126);
         due("o=5|(o=1|(o=2|(o=3&(o=3)&(o=4|(o=3)))))", met("o=5|(o=1|(o=2|(o=3&(o=3)&(o=4|(o=3)))))"), 126 - 46);
         due("two shun", met("o=1;shun o=2"), 126 - 6);
+        OneFewer x = friends(0, 0, 0);
+        x.begin(0, 1);
+        due("a TOWN", town(x, "shun o=1"), 0);
+        due("of(0, 7)", x.of(0, 7), 4);
+        due("a newer one", town(x, "shun o=2"), 1);
+        due("of(0, 7) by the newer", x.of(0, 7), 2);
+        due("one without shun", town(x, "law 0"), 2);
+        due("of(0, 7) by that", x.of(0, 7), 6);
     }
 
     private static void person() {
@@ -355,11 +364,12 @@ public final class PromiseTest {
         due("day()", x.day(), 0);
         due("day()", x.day(), 0);
         due("told(0)", x.told(0), 5);
-        for (int i = 5; i < 500; i++) {
-            x.day();
+        for (int i = 5; i < 999; i++) {
+            due("day()", x.day(), 0);
         }
-        due("told(0)", x.told(0), 500);
-        due("end(0)", x.end(0), 0);
+        due("told(0)", x.told(0), 999);
+        due("day(), DAY being 999", x.day(), STATE);
+        due("told(0)", x.told(0), 999);
     }
 
     /** Who is told by two hears it once; who tells on one DAY has the same NUMBER, so law makes no odds. */
@@ -403,6 +413,43 @@ public final class PromiseTest {
         due("day(), DAY 2", x.day(), 1);
         x.begin(0, 1);
         due("day(), DAY 3", x.day(), 0);
+        OneFewer two = friends(DEAF, DEAF, HEARER);
+        two.begin(2, 2);
+        due("two DEAF ones", two.day(), 0);
+    }
+
+    /** As many PEOPLE as there can be, as many DAYS as it can take, and all that is asked of them. */
+    private static void seven() {
+        OneFewer x = chain(7);
+        town(x, "fine 1 p<7");
+        x.begin(0, 9);
+        promise = 13;
+        due("end(0)", x.end(0), 7);
+        due("end(1)", x.end(1), 7);
+        due("end(2)", x.end(2), 8 + 7 + 6 + 5 + 4 + 3 + 3);
+        due("end(3)", x.end(3), 0);
+        promise = 14;
+        due("best(9, 0)", x.best(9, 0), 0);
+        due("best(9, 2)", x.best(9, 2), 36);
+        promise = 16;
+        due("reach(0, 6)", x.reach(0, 6), 2);
+        promise = 18;
+        x.see(127, 6);
+        // 0 and 6 by 6; 1 and 5 by 5 and more; 2 and 4 by 4 and more; 3 by 3 and more
+        due("began(0)", x.began(0), 2 * (1 + 2 + 3) + 4);
+        x.see(63, 6);
+        due("began(0), not both", x.began(0), 0);
+        promise = 19;
+        due("stops(6)", x.stops(6), 0);
+        promise = 20;
+        due("odds(6, 9, 0)", x.odds(6, 9, 0), 1);
+        due("odds(6, 9, 1)", x.odds(6, 9, 1), 1);
+        due("odds(6, 3, 0)", x.odds(6, 3, 0), 1);
+        due("odds(6, 3, 1)", x.odds(6, 3, 1), 2);
+        promise = 21;
+        due("mean(0, 0)", x.mean(0, 0), 0);
+        promise = 10;
+        due("day()", x.day(), 1);
     }
 
     private static void fines() {
@@ -656,6 +703,8 @@ public final class PromiseTest {
         due("odds(0, 0, 2)", x.odds(0, 0, 2), NO);
         due("odds(0, 0, -1)", x.odds(0, 0, -1), NO);
         due("odds alone, above", chain(1).odds(0, 1, 0), NO);
+        due("odds of two", chain(2).odds(0, 1, 0), 1);
+        due("odds(1, 1, 1), by 0 and 2", x.odds(1, 1, 1), 2);
         due("odds(0, 1, 0)", x.odds(0, 1, 0), 1);
         due("odds(0, 1, 1)", x.odds(0, 1, 1), 4);
         due("odds(0, 2, 0), by 1 and 2", x.odds(0, 2, 0), 1);
@@ -675,6 +724,9 @@ public final class PromiseTest {
         due("mean(0, 2)", x.mean(0, 2), NO);
         due("mean(0, -1)", x.mean(0, -1), NO);
         due("mean of nobody", new OneFewer().mean(0, 0), NO);
+        OneFewer alone = chain(1);
+        town(alone, "fine 2 p=0");
+        due("mean of one", alone.mean(3, 0), 6);
         due("mean(1, 0)", x.mean(1, 0), 0);
         due("mean(1, 1)", x.mean(1, 1), 1);
         town(x, "fine 2 n=2");
@@ -876,6 +928,7 @@ public final class PromiseTest {
         day();
         byTwo();
         deafness();
+        seven();
         fines();
         sum();
         enough();
