@@ -1143,7 +1143,7 @@ public final class OneFewer {
             for (int who = 0; who < telling.state.people.size; who++) {
                 if (who != person) {
                     trial.startWith(who, number, telling.state.word.date);
-                telling.goOn(trial, NOBODY, 0, NOBODY);
+                    telling.goOn(trial, NOBODY, 0, NOBODY);
                     ways += hasBit(trial.heard, person) ? 1 : 0;
                 }
             }
