@@ -242,6 +242,11 @@ public final class EdgeAskedTest {
             last.know(5, 6, true);
             last.begin(0, 2);
             choice(last, 34, 4);
+            OneFewer first = Edges.star(4);
+            first.person(0, 0);
+            first.know(1, 4, true);
+            first.begin(0, 2);
+            choice(first, 6, 4);
         });
         Edges.test("all others choosing as they do", () -> {
             OneFewer x = Edges.friends(0, 0, 0, 0, 0, 0);
@@ -514,6 +519,7 @@ public final class EdgeAskedTest {
             due("(x - 1) * 3 * 2 + 6 of 0", actor(0, EARLY, 0).act(0, 2, 0), 0);
             due("(x + i) ^ i", actor(1, DEAF, 0).act(1, 0, MAX), MIN + 1);
             due("(x + i) ^ i of -1", actor(1, DEAF, 0).act(1, 0, -1), 1);
+            due("(x + i) ^ i of 0", actor(1, DEAF, 0).act(1, 0, 0), 0);
             due("- ((x + i) ^ i)", actor(1, DEAF, 0).act(1, 1, MAX), MAX);
             due("x - v + v", actor(0, TOLD, 9).act(0, 1, MIN), MIN);
             due("(x - v + v) * 2 ^ 7", actor(0, TOLD, 9).act(0, 2, MIN), 7);

@@ -669,6 +669,22 @@ public final class EdgePromisesTest {
             due("town()", towns.town(), FULL);
             towns.undo();
             due("town() behind undo()", towns.town(), FULL);
+            OneFewer word = Edges.chain(2);
+            word.begin(0, 4);
+            word.day();
+            word.image();
+            word.day();
+            word.begin(1, 7);
+            word.day();
+            word.begin(0, 6);
+            word.undo();
+            due("the DAY 0 HEARD it", word.of(0, 5), 0);
+            due("the DAY 1 HEARD it", word.of(1, 5), 0);
+            due("NUMBER of 0", word.of(0, 3), 4);
+            due("NUMBER of 1", word.of(1, 3), 3);
+            due("DAY", word.told(0), 1);
+            due("0 has TOLD it", word.of(0, 4), 1);
+            due("1 has yet to", word.of(1, 4), 0);
             OneFewer early = new OneFewer();
             early.image();
             for (int i = 0; i < 5; i++) {

@@ -94,6 +94,8 @@ public final class EdgeTermsTest {
             due("NUMBER 10", x.begin(0, 10), BAD);
             due("not HEARD", x.of(0, 3), NEVER);
             due("not HEARD, the DAY", x.of(0, 5), NEVER);
+            due("not TOLD at first", x.of(0, 4), 0);
+            due("not TOLD at first", x.of(1, 4), 0);
             due("NUMBER 9", x.begin(0, 9), 1);
             due("of(0, 3)", x.of(0, 3), 9);
             due("of(0, 5)", x.of(0, 5), 0);
@@ -141,7 +143,11 @@ public final class EdgeTermsTest {
             due("ten shun", Edges.town(x, times(9, "shun o=9;") + "shun o=6"), 0);
             x.begin(0, 3);
             due("the tenth counts", x.of(0, 7), ALL_OTHERS - 64);
-            due("none of shun", Edges.town(x, "law 0"), 1);
+            due("ten shun again", Edges.town(x, "shun o=1;" + times(7, "shun o=9;") + "shun o=5;shun o=6"), 1);
+            due("the first, the ninth and the tenth count", x.of(0, 7), ALL_OTHERS - 2 - 32 - 64);
+            due("nine fine, as many as THE TAPE takes", Edges.town(x, "fine 1 p<9" + times(8, ";fine 9 p<9")), 2);
+            due("all nine count", x.of(0, 10), 73);
+            due("none of shun", Edges.town(x, "law 0"), 3);
             due("MAY", x.of(0, 7), ALL_OTHERS);
             fault("s", 1);
             fault("f", 1);
@@ -383,6 +389,12 @@ public final class EdgeTermsTest {
             due("the sixth", Edges.town(x, "fewer 9"), FULL);
             due("count(1)", x.count(1), 5);
             due("the fifth holds", x.told(2), 6);
+            OneFewer full = Edges.friends(0, 0, 0, 0, 0, 0, 0);
+            full.begin(0, 3);
+            for (int i = 0; i < 5; i++) {
+                due("a TOWN of 100 bytes", Edges.town(full, "shun o=9" + times(22, "|o=9") + "|o=" + (i + 1)), i);
+                due("its last TEST counts, and none of an older one", full.of(0, 7), ALL_OTHERS - (2 << i));
+            }
             OneFewer y = new OneFewer();
             Edges.town(y, "fewer 2;law 1;fine 5 p<9");
             Edges.town(y, "law 0");
@@ -634,6 +646,14 @@ public final class EdgeTermsTest {
                 OneFewer x = Edges.friends(HEARER, kind);
                 x.begin(0, 1);
                 due("on DAY 0, KIND " + kind, x.day(), kind == DEAF ? 0 : 1);
+            }
+            for (int person = 0; person < 7; person++) {
+                int[] kinds = new int[7];
+                kinds[person] = DEAF;
+                OneFewer x = Edges.friends(kinds);
+                x.begin(person == 3 ? 4 : 3, 6);
+                due("all but the DEAF one on DAY 0", x.day(), 5);
+                due("the DEAF one is " + person, x.told(4), 127 - (1 << person));
             }
             OneFewer x = Edges.friends(HEARER, DEAF);
             due("a DEAF one begins it on DAY 0", x.begin(1, 1), 1);
