@@ -720,6 +720,51 @@ public final class EdgePromisesTest {
         });
     }
 
+    /** Each call that can be refused, once for each word of refusal. */
+    private static long[][] refusals(OneFewer x) {
+        return new long[][] {
+            {x.feed(128), BAD}, {x.person(7, 10), NONE}, {x.person(6, 10), BAD}, {x.of(6, 0), NONE}, {x.know(0, 6, true), NONE},
+            {x.know(1, 1, true), BAD}, {x.row(2, 6), NONE}, {x.row(3, 0), STATE}, {x.told(5), NONE}, {x.begin(6, 0), NONE},
+            {x.begin(0, 10), BAD}, {x.sum(13), NO}, {x.enough(-1), BAD}, {x.end(4), NONE}, {x.best(0, 3), NONE}, {x.best(10, 0), BAD},
+            {x.choice(1, 2), NONE}, {x.choice(0, 0), STATE}, {x.reach(1, 6), NONE}, {x.reach(3, 0), STATE}, {x.see(64, 0), BAD},
+            {x.see(1, 7), BAD}, {x.began(2), NONE}, {x.stops(6), -1001}, {x.stops(0), -1002}, {x.odds(6, 0, 0), NO}, {x.mean(10, 0), NO},
+            {x.book(6, 0), NONE}, {x.book(0, 1000), BAD}, {x.trace(7), NONE}, {x.as(6, 0), NONE}, {x.as(0, 6), -6}, {x.count(6), NONE}};
+    }
+
+    private static void refusals() {
+        Edges.test("STATE as told; FULL. They change nothing.", () -> {
+            Edges.keeps("all refusals, one behind the other, twice", Edges::rich, x -> {
+                for (int times = 0; times < 2; times++) {
+                    long[][] rows = refusals(x);
+                    for (int i = 0; i < rows.length; i++) {
+                        due("refusal " + i, rows[i][0], rows[i][1]);
+                    }
+                }
+                return x.count(0);
+            }, 6);
+        });
+        Edges.test("An object is used for at most 512 calls after it has been made", () -> {
+            OneFewer x = new OneFewer();
+            int calls = 0;
+            for (int kind = 0; kind < 7; kind++) {
+                x.person(kind, kind);
+                calls++;
+            }
+            x.know(0, 6, true);
+            x.image();
+            calls += 2;
+            while (calls < 510) {
+                x.begin(0, 1);
+                due("day() after " + calls + " calls", x.day(), 1);
+                due("undo() after " + calls + " calls", x.undo(), 7);
+                calls += 3;
+            }
+            due("calls till now", calls, 510);
+            due("the last but one", x.best(1, 0), 0);
+            due("the 512th call", x.best(1, 1), 2);
+        });
+    }
+
     private static void all() {
         Edges.test("## Promise 29", () -> {
             for (int number = 1; number < TESTED.length; number++) {
@@ -758,6 +803,7 @@ public final class EdgePromisesTest {
         image();
         undo();
         count();
+        refusals();
         all();
         Edges.end();
     }
