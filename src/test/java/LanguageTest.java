@@ -5,7 +5,9 @@ import java.lang.reflect.Method;
 import java.lang.reflect.Modifier;
 import java.nio.file.Files;
 import java.nio.file.Path;
+import java.util.ArrayList;
 import java.util.Arrays;
+import java.util.List;
 import java.util.Set;
 import java.util.TreeSet;
 import java.util.regex.Matcher;
@@ -130,9 +132,36 @@ public final class LanguageTest {
         }
     }
 
-    public static void main(String[] args) throws IOException {
+    /** What one object is made of, itself and all that it holds: objects and arrays, fields and elements. */
+    private static void room() throws IllegalAccessException {
+        List<Object> made = new ArrayList<>(List.of(new OneFewer()));
+        int parts = 0;
+        for (int i = 0; i < made.size(); i++) {
+            Object one = made.get(i);
+            if (one instanceof int[]) {
+                parts += ((int[]) one).length;
+                continue;
+            }
+            for (Field field : one.getClass().getDeclaredFields()) {
+                if (!Modifier.isStatic(field.getModifiers())) {
+                    parts++;
+                    field.setAccessible(true);
+                    Object held = field.getType().isPrimitive() ? null : field.get(one);
+                    if (held != null && made.stream().noneMatch(other -> other == held)) {
+                        made.add(held);
+                    }
+                }
+            }
+        }
+        // a thousand objects fit into one room with much to spare
+        rule(12, made.size() <= 100, "an object is made of " + made.size() + " objects and arrays");
+        rule(12, parts <= 2500, "an object has " + parts + " fields and elements");
+    }
+
+    public static void main(String[] args) throws IOException, IllegalAccessException {
         face();
         words();
+        room();
         System.out.println(wrong == 0 ? "the rules are kept" : wrong + " breaks of a rule");
         if (wrong != 0) {
             System.exit(1);

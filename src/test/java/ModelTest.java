@@ -126,12 +126,21 @@ public final class ModelTest {
 
     /** The FAULT, or -1. */
     private static int faultOf(String tape) {
-        for (int i = 0; i < tape.length(); i++) {
-            if (!canGoOn(tape.substring(0, i + 1))) {
-                return i;
+        if (isWhole(tape)) {
+            return -1;
+        }
+        // what no TOWN goes on with, none does with more behind it: so halves find the first such byte
+        int least = 0;
+        int most = tape.length();
+        while (least < most) {
+            int middle = (least + most) / 2;
+            if (canGoOn(tape.substring(0, middle + 1))) {
+                least = middle + 1;
+            } else {
+                most = middle;
             }
         }
-        return isWhole(tape) ? -1 : tape.length();
+        return least;
     }
 
     private static boolean truth(String text, Map<Character, Integer> facts) {

@@ -911,7 +911,26 @@ public final class PromiseTest {
         due("count(-1)", x.count(-1), NONE);
     }
 
+    /** The calls that README.md shows. */
+    private static void readme() {
+        promise = 0;
+        OneFewer x = new OneFewer();
+        due("person(0, 0)", x.person(0, 0), 0);
+        due("person(4, 0)", x.person(4, 0), 1);
+        due("person(3, 5)", x.person(3, 5), 2);
+        due("know(0, 1, true)", x.know(0, 1, true), 0);
+        x.know(1, 2, true);
+        due("town()", town(x, "fewer 1;shun p=0&o=2;fine 5 k=4"), 0);
+        due("begin(0, 2)", x.begin(0, 2), 1);
+        due("end(1)", x.end(1), 3);
+        due("end(2)", x.end(2), 5);
+        due("day()", x.day(), 1);
+        due("told(4)", x.told(4), 3);
+        due("choice(1, 0)", x.choice(1, 0), 4);
+    }
+
     public static void main(String[] args) {
+        readme();
         aNewObject();
         feed();
         faults();
